@@ -55,7 +55,7 @@ public final class NestingPlanner {
         shapeReader = new ShapeReader();
         layoutReader = new LayoutReader();
         pair = new Pair();
-        places = new Places(pair);
+        places = new Places();
         state = new State(empty);
         before = new State(empty);
         history = new History(empty);
@@ -1305,7 +1305,7 @@ public final class NestingPlanner {
     private static final class Places {
         static final int MAX_OBSTACLES = MAX_ITEMS * MAX_PIECES * MAX_PIECES;
 
-        final Pair pair;
+        final Pair pair = new Pair();
         final Polygon square = new Polygon();
         final Polygon[] obstacles = new Polygon[MAX_OBSTACLES];
         int count;
@@ -1316,8 +1316,7 @@ public final class NestingPlanner {
         int foundX;
         int foundY;
 
-        Places(Pair pair) {
-            this.pair = pair;
+        Places() {
             for (int k = 0; k < obstacles.length; k++) {
                 obstacles[k] = new Polygon();
             }

@@ -16,6 +16,14 @@ final class Checks {
         }
     }
 
+    void same(String what, Object got, Object want) {
+        checks++;
+        if (!got.equals(want)) {
+            wrong++;
+            System.out.println(what + " answered " + got + ", due is " + want);
+        }
+    }
+
     /** Ends the test: with exit code 1 if an answer was wrong. */
     void finish() {
         System.out.println(checks + " checks, " + wrong + " wrong");
