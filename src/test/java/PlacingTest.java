@@ -12,6 +12,7 @@ final class PlacingTest {
         clearanceIsASquare();
         setContainer();
         place();
+        placeAtTheSides();
         placeKeepsACopy();
         placeWithEightItems();
         placeBottomLeft();
@@ -117,6 +118,28 @@ final class PlacingTest {
         checks.due("itemCount()", planner.itemCount(), 4);
     }
 
+    private static void atTheSide(String shape, int turns, int inX, int inY, int outX, int outY) {
+        NestingPlanner planner = Checks.with(shape);
+        planner.copyShape(0, 0, turns);
+        String what = shape + " turned " + turns + " times";
+        checks.due("not inside: " + what, planner.place(0, outX, outY), Checks.ILLEGAL);
+        checks.due("inside: " + what, planner.place(0, inX, inY), 0);
+    }
+
+    /** One vertex alone is on the container's side: the first of the text, another one, the last. */
+    private static void placeAtTheSides() {
+        atTheSide("0,01,2-1,2;", 0, 1, 0, 1, -1);
+        atTheSide("0,01,2-1,2;", 1, 20, 1, 21, 1);
+        atTheSide("0,01,2-1,2;", 2, 1, 20, 1, 21);
+        atTheSide("0,01,2-1,2;", 3, 0, 1, -1, 1);
+        atTheSide("-1,-21,-20,0;", 0, 1, 20, 1, 21);
+        atTheSide("-1,-21,-20,0;", 1, 0, 1, -1, 1);
+        atTheSide("-1,-21,-20,0;", 2, 1, 0, 1, -1);
+        atTheSide("-1,-21,-20,0;", 3, 20, 1, 21, 1);
+        atTheSide("1,2-1,20,0;", 0, 1, 0, 1, -1);
+        atTheSide("2,-12,10,0;", 0, 0, 1, -1, 1);
+    }
+
     private static void placeKeepsACopy() {
         NestingPlanner planner = Checks.with(SQUARE);
         planner.place(0, 5, 5);
@@ -174,6 +197,12 @@ final class PlacingTest {
         }
         planner.setContainer(1, 1);
         checks.due("too small", planner.placeBottomLeft(0), Checks.NONE);
+        planner.setContainer(2, 2);
+        checks.due("just large enough", planner.placeBottomLeft(0), 0);
+        planner.setContainer(2, 6);
+        planner.place(0, 0, 0);
+        checks.due("the topmost row", planner.placeBottomLeft(0), 1);
+        at("the topmost row", planner, 1, 0, 4);
     }
 
     private static void placeTurned() {
@@ -337,6 +366,14 @@ final class PlacingTest {
         for (int slot : NOT_SLOTS) {
             checks.due("freePlaces(" + slot + ")", planner.freePlaces(slot), Checks.INVALID);
         }
+        // eight items of three pieces each, and three pieces that look for a place
+        Checks.load(planner, 2, "0,01,01,10,1;1,02,02,11,1;2,03,03,12,1;");
+        planner.setClearance(0);
+        planner.setContainer(20, 20);
+        for (int item = 0; item < 8; item++) {
+            planner.place(2, 0, 2 * item);
+        }
+        checks.due("three pieces", planner.freePlaces(2), 18 * 20 - 8 * 3);
         planner.setContainer(2, 2);
         checks.due("one place", planner.freePlaces(0), 1);
         planner.place(0, 0, 0);

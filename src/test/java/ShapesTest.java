@@ -122,6 +122,14 @@ final class ShapesTest {
         // far corners: all three pieces give vertices
         Checks.load(planner, 3, "-9,-9-8,-9-9,-8;9,98,98,8;9,-99,-88,-9;");
         hull("corners", planner, 3, -9, -9, 9, -9, 9, 9, 8, 9, -9, -8);
+        // one piece is inside the other, and turned so that another vertex than before is the lowest
+        Checks.load(planner, 3, "-9,-99,0-9,9;6,05,15,-1;");
+        hull("one in the other", planner, 3, -9, -9, 9, 0, -9, 9);
+        planner.copyShape(3, 3, 3);
+        hull("turned", planner, 3, 0, -9, 9, 9, -9, 9);
+        // a vertex of both pieces
+        Checks.load(planner, 3, SQUARE + "0,00,-22,0;");
+        hull("a shared vertex", planner, 3, 0, -2, 2, 0, 2, 2, 0, 2);
     }
 
     private static void hullVertex() {
@@ -151,6 +159,10 @@ final class ShapesTest {
             checks.due("extent(0," + direction + ")", planner.extent(0, direction), due[direction]);
             checks.due("extent(1," + direction + ")", planner.extent(1, direction), dueOfTwo[direction]);
         }
+        Checks.load(planner, 2, "0,-33,00,0;");
+        planner.copyShape(2, 2, 1);
+        checks.due("extent(2,1)", planner.extent(2, 1), 3);
+        checks.due("extent(2,5)", planner.extent(2, 5), 0);
         checks.due("extent(0,8)", planner.extent(0, 8), Checks.INVALID);
         checks.due("extent(0,-1)", planner.extent(0, -1), Checks.INVALID);
         checks.due("extent(3,0)", planner.extent(3, 0), Checks.ILLEGAL);

@@ -160,6 +160,13 @@ final class TwoShapesTest {
         free(TRIANGLE, TRIANGLE, 1, 2, 7);
         free(TRIANGLE, TRIANGLE, 1, 2, 1);
         NestingPlanner planner = Checks.with("0,04,00,3;", "0,02,02,20,2;");
+        Checks.load(planner, 2, "0,01,00,1;");
+        checks.due("a vertex moves in", planner.slide(2, 2, 0, -1, 1, 0), 0);
+        checks.due("a vertex moves in, below", planner.slide(2, 2, 0, -1, 1, 1), 1);
+        checks.due("unit triangles", planner.slide(2, 2, 3, 0, 4, 0), 2);
+        checks.due("unit triangles, above", planner.slide(2, 2, 3, 1, 4, 0), Checks.NONE);
+        checks.due("unit triangles, across", planner.slide(2, 2, 1, 1, 5, 0), 1);
+        checks.due("unit triangles, across, below", planner.slide(2, 2, 1, 1, 5, 1), 2);
         checks.due("slanted above", planner.slide(0, 1, 3, 3, 5, 0), 9);
         checks.due("slanted below", planner.slide(0, 1, 3, 3, 5, 1), 7);
     }
