@@ -30,6 +30,7 @@ final class ContainerBoundaryTest {
         placeArguments();
         placeOfAnEmptySlot();
         placeOnTheBoundary();
+        placeWithOneVertexOnTheBoundary();
         placeFarFromTheVertices();
         placeAtTheClearance();
         placeWithoutClearance();
@@ -271,6 +272,29 @@ final class ContainerBoundaryTest {
         fits(THREE, 12, 15);
         fitsNot(THREE, 13, 15);
         fitsNot(THREE, 12, 16);
+    }
+
+    /** "all vertices": one alone is at the container's side, and it is any of them. */
+    private static void placeWithOneVertexOnTheBoundary() {
+        String[] vertices = {"-2,1", "-1,-3", "3,-2", "1,4"};
+        for (int first = 0; first < 4; first++) {
+            StringBuilder shape = new StringBuilder();
+            for (int k = 0; k < 4; k++) {
+                shape.append(vertices[(first + k) % 4]);
+            }
+            Supplier<NestingPlanner> setup = () -> Checks.with(shape + ";");
+            int[][] inside = {{2, 10}, {10, 3}, {17, 10}, {10, 16}, {2, 3}, {17, 16}};
+            int[][] outside = {{1, 10}, {10, 2}, {18, 10}, {10, 17}, {2, 2}, {1, 3}, {17, 17}, {18, 16}};
+            for (int[] place : inside) {
+                boundary.taken(shape + " at " + place[0] + "," + place[1], setup,
+                    planner -> planner.place(0, place[0], place[1]), 0);
+            }
+            for (int[] place : outside) {
+                boundary.refused(shape + " at " + place[0] + "," + place[1], setup,
+                    planner -> planner.place(0, place[0], place[1]), Checks.ILLEGAL);
+            }
+            boundary.taken("freePlaces of " + shape, setup, planner -> planner.freePlaces(0), 16 * 14);
+        }
     }
 
     /** The place may be outside the container, if the vertices are not. */

@@ -460,7 +460,16 @@ final class ItemsBoundaryTest {
         }
         checks.due("a place beyond 40", Checks.layout(planner, "1@48,48;"), 1);
         checks.due("left of it", planner.boundingBox(0), 39);
+        checks.due("bottom of it", planner.boundingBox(1), 39);
+        checks.due("right of it", planner.boundingBox(2), 40);
         checks.due("top of it", planner.boundingBox(3), 40);
+        // the vertices count, not the place: each of them alone is at one side
+        NestingPlanner oblique = Checks.with("-2,1-1,-31,-21,4;");
+        oblique.place(0, 10, 10);
+        checks.due("the first vertex", oblique.boundingBox(0), 8);
+        checks.due("the second vertex", oblique.boundingBox(1), 7);
+        checks.due("the third vertex", oblique.boundingBox(2), 11);
+        checks.due("the fourth vertex", oblique.boundingBox(3), 14);
     }
 
     // ---- promise 37

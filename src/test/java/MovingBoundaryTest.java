@@ -31,6 +31,7 @@ final class MovingBoundaryTest {
         removeItemArguments();
         removeItemOfNoItems();
         removeItemRenumbers();
+        removeItemRenumbersAll();
         removeItemUntilNoneIsLeft();
         checks.finish();
     }
@@ -313,6 +314,27 @@ final class MovingBoundaryTest {
             checks.due("there is no item 7", planner.itemPlace(7, 0), Checks.INVALID);
             checks.due("its place is free", planner.itemAt(2 * removed, 0), Checks.NONE);
             checks.due("the next one is item 7", planner.place(Boundary.UNIT_SLOT, 2 * removed, 0), 7);
+        }
+    }
+
+    /** The shape and both coordinates go with the number. */
+    private static void removeItemRenumbersAll() {
+        int[] xs = {0, 4, 9, 15};
+        int[] ys = {1, 5, 10, 17};
+        int[] areas = {8, 9, 13, 2};
+        int[][] corners = {{2, 3}, {5, 7}, {10, 13}, {16, 18}};
+        for (int removed = 0; removed < 4; removed++) {
+            NestingPlanner planner = Boundary.items("0@0,1;1@4,5;2@9,10;3@15,17;").get();
+            checks.due("removeItem(" + removed + ")", planner.removeItem(removed), 3);
+            checks.due("the area of the others", planner.packedDoubleArea(), 32 - areas[removed]);
+            for (int item = 0; item < 4; item++) {
+                int due = item < removed ? item : item - 1;
+                int corner = planner.itemAt(corners[item][0], corners[item][1]);
+                checks.due("the corner of " + item, corner, item == removed ? Checks.NONE : due);
+                if (item != removed) {
+                    at("without " + removed, planner, due, xs[item], ys[item]);
+                }
+            }
         }
     }
 

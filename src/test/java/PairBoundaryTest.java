@@ -320,6 +320,10 @@ final class PairBoundaryTest {
         slides(TRIANGLE, UNIT, 1, 2, 5, 0, 1);
         slides(TRIANGLE, UNIT, 1, 2, 6, 0, 1);
         slides(TRIANGLE, UNIT, 1, 2, 4, 0, 1);
+        // from one vertex of the no-fit polygon across a corner of it, for half a step
+        NestingPlanner planner = Checks.with("0,01,00,1;");
+        checks.due("across a corner, above", planner.slide(0, 0, 0, -1, 1, 0), 0);
+        checks.due("across a corner, below", planner.slide(0, 0, 0, -1, 1, 1), 1);
     }
 
     /** "NONE if there is no greatest number, as they never overlap": it goes away, past it, or along it. */
@@ -332,6 +336,14 @@ final class PairBoundaryTest {
         slidesOn(SQUARE, SQUARE, 9, -3, 4);
         slides(SQUARE, SQUARE, 9, 1, 4, 7, 1);
         slides(SQUARE, SQUARE, 9, -1, 4, 7, 1);
+        // the least shapes, which leave each other by one step
+        NestingPlanner planner = Checks.with("0,01,00,1;");
+        for (int direction = 0; direction < 8; direction++) {
+            int x = 2 * DX[direction];
+            int y = 2 * DY[direction];
+            checks.due("away " + direction, planner.slide(0, 0, x, y, direction, 0), Checks.NONE);
+            checks.due("away " + direction, planner.slide(0, 0, x, y, direction, 1), Checks.NONE);
+        }
     }
 
     /** Along an edge, and over a corner, they touch but never overlap. */

@@ -409,6 +409,9 @@ final class ShapeBoundaryTest {
         // the two lowest are of two pieces
         hull("5,06,05,1;-5,0-4,0-5,1;", -5, 0, 6, 0, 5, 1, -5, 1);
         hull("5,06,05,1;-9,5-8,5-9,6;", 5, 0, 6, 0, 5, 1, -9, 6, -9, 5);
+        // the lowest is the second vertex, and what is next to it is no vertex of the hull
+        hull("-9,50,-99,5;0,01,00,1;", 0, -9, 9, 5, -9, 5);
+        hull("-9,50,-99,5;0,-11,-10,0;0,01,00,1;", 0, -9, 9, 5, -9, 5);
         // the lowest is at the right
         hull("0,8-9,99,-9;", 9, -9, 0, 8, -9, 9);
     }
