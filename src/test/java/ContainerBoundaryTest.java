@@ -274,26 +274,32 @@ final class ContainerBoundaryTest {
         fitsNot(THREE, 12, 16);
     }
 
-    /** "all vertices": one alone is at the container's side, and it is any of them. */
+    /** "all vertices": one alone is at each of the container's sides, also after turns. */
     private static void placeWithOneVertexOnTheBoundary() {
-        String[] vertices = {"-2,1", "-1,-3", "3,-2", "1,4"};
-        for (int first = 0; first < 4; first++) {
-            StringBuilder shape = new StringBuilder();
-            for (int k = 0; k < 4; k++) {
-                shape.append(vertices[(first + k) % 4]);
-            }
-            Supplier<NestingPlanner> setup = () -> Checks.with(shape + ";");
-            int[][] inside = {{2, 10}, {10, 3}, {17, 10}, {10, 16}, {2, 3}, {17, 16}};
-            int[][] outside = {{1, 10}, {10, 2}, {18, 10}, {10, 17}, {2, 2}, {1, 3}, {17, 17}, {18, 16}};
+        int[][] boxes = {{-2, -3, 3, 4}, {-4, -2, 3, 3}, {-3, -4, 2, 3}, {-3, -3, 4, 2}};
+        for (int turns = 0; turns < 4; turns++) {
+            int asked = turns;
+            Supplier<NestingPlanner> setup = () -> {
+                NestingPlanner planner = Checks.with("-2,1-1,-33,-21,4;");
+                planner.copyShape(0, 0, asked);
+                return planner;
+            };
+            int left = -boxes[turns][0];
+            int bottom = -boxes[turns][1];
+            int right = 20 - boxes[turns][2];
+            int top = 20 - boxes[turns][3];
+            int[][] inside = {{left, 10}, {10, bottom}, {right, 10}, {10, top}, {left, bottom}, {right, top}};
+            int[][] outside = {{left - 1, 10}, {10, bottom - 1}, {right + 1, 10}, {10, top + 1}};
             for (int[] place : inside) {
-                boundary.taken(shape + " at " + place[0] + "," + place[1], setup,
+                boundary.taken("turned " + turns + ", at " + place[0] + "," + place[1], setup,
                     planner -> planner.place(0, place[0], place[1]), 0);
             }
             for (int[] place : outside) {
-                boundary.refused(shape + " at " + place[0] + "," + place[1], setup,
+                boundary.refused("turned " + turns + ", at " + place[0] + "," + place[1], setup,
                     planner -> planner.place(0, place[0], place[1]), Checks.ILLEGAL);
             }
-            boundary.taken("freePlaces of " + shape, setup, planner -> planner.freePlaces(0), 16 * 14);
+            boundary.taken("freePlaces, turned " + turns, setup, planner -> planner.freePlaces(0),
+                (right - left + 1) * (top - bottom + 1));
         }
     }
 

@@ -489,6 +489,10 @@ final class ItemsBoundaryTest {
         touching("1@0,0;3@1,2;", 1);
         touching("1@0,0;3@2,2;", 0);
         touching("2@0,0;3@1,1;", 1);
+        // different shapes, and the other way round
+        touching("3@2,0;0@0,0;", 1);
+        touching("0@0,0;3@2,0;", 1);
+        touching("1@9,9;0@7,9;3@12,9;3@9,8;", 4);
         touching("3@0,0;3@1,0;3@2,0;3@3,0;3@0,1;3@1,1;3@2,1;3@3,1;", 4 + 3 + 3 + 6);
         touching("3@0,0;3@2,0;3@4,0;3@6,0;3@8,0;3@10,0;3@12,0;3@13,0;", 1);
         boundary.taken("no pair of eight", Boundary::eight, NestingPlanner::touchingPairs, 0);

@@ -339,6 +339,9 @@ final class PlacingBoundaryTest {
         cannotBePlaced(EIGHT + "3@16,0;");
         cannotBePlaced(EIGHT + "3@16,0;3@18,0;");
         cannotBePlaced("3@0,0;".repeat(25));
+        // the lower left corner is free, so each of the nine would fit alone
+        cannotBePlaced("3@0,9;3@2,9;3@4,9;3@6,9;3@8,9;3@10,9;3@12,9;3@14,9;3@9,14;");
+        cannotBePlaced("3@0,9;3@2,9;3@4,9;3@6,9;3@8,9;3@10,9;3@12,9;3@14,9;0@0,0;");
         // the two present ones do not count, nor do they where they are refused
         NestingPlanner refused = Boundary.typed(EIGHT + "3@16,0;").get();
         checks.due("nine items", refused.loadLayout(), Checks.ILLEGAL);

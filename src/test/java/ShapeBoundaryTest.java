@@ -412,6 +412,20 @@ final class ShapeBoundaryTest {
         // the lowest is the second vertex, and what is next to it is no vertex of the hull
         hull("-9,50,-99,5;0,01,00,1;", 0, -9, 9, 5, -9, 5);
         hull("-9,50,-99,5;0,-11,-10,0;0,01,00,1;", 0, -9, 9, 5, -9, 5);
+        // the first vertices are no vertices of the hull
+        hull("0,01,00,1;-9,-59,-50,9;", -9, -5, 9, -5, 0, 9);
+        hull("0,01,00,1;-1,-10,-1-1,0;0,9-9,-59,-5;", -9, -5, 9, -5, 0, 9);
+        // turns make each vertex of the first piece the lowest one
+        int[][] turned = {{0, -9, 9, 5, -9, 5}, {-5, -9, 9, 0, -5, 9}, {-9, -5, 9, -5, 0, 9}, {5, -9, 5, 9, -9, 0}};
+        for (int turns = 0; turns < 4; turns++) {
+            NestingPlanner planner = Checks.with("-9,50,-99,5;0,01,00,1;");
+            planner.copyShape(0, 1, turns);
+            checks.due("hullSize, turned " + turns, planner.hullSize(1), 3);
+            for (int k = 0; k < 6; k++) {
+                String what = "hullVertex " + k / 2 + ", turned " + turns;
+                checks.due(what, planner.hullVertex(1, k / 2, k % 2), turned[turns][k]);
+            }
+        }
         // the lowest is at the right
         hull("0,8-9,99,-9;", 9, -9, 0, 8, -9, 9);
     }

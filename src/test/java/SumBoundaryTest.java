@@ -157,6 +157,10 @@ final class SumBoundaryTest {
         sum("3 and 3, parallel", Checks.with("0,03,00,3;", "1,12,11,2;"), 0, 1001, 5001, 1005);
         sum("3 and 3, oblique", Checks.with("0,03,00,3;", "0,02,11,3;"), 0, 0, 3000, 5001, 4003, 1006, 3);
         sum("3 and -3", Checks.with("0,03,00,3;", "0,01,00,1;"), 1, -1, 2999, 3000, 3, -997, -1000);
+        // whichever of the two has more vertices
+        int[] nine = {0, 4000, 6001, 7003, 6005, 5006, 3005, 3, -999};
+        sum("3 and 6, oblique", Checks.with("0,04,03,2;", OBLIQUE), 0, nine);
+        sum("6 and 3, oblique", Checks.with(OBLIQUE, "0,04,03,2;"), 0, nine);
         NestingPlanner six = Checks.with(HEXAGON, OBLIQUE);
         checks.due("6 and 6", six.sumSize(0, 0, 0, 1, 0), 12);
         checks.due("6 and -6", six.sumSize(1, 0, 0, 1, 0), 12);

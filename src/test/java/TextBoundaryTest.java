@@ -287,6 +287,8 @@ final class TextBoundaryTest {
         wrong(TRIANGLE + SIX + "0,0;", 28);
         // six vertices that form no piece, as no ";" stands behind them
         wrong("0,00,00,00,00,00,00,0;", 18);
+        wrong("0,00,00,00,00,00,0  0,0;", 20);
+        wrong("0,00,00,00,00,00,0  ", 20);
         wrong("0,00,00,00,00,00,0;", 18);
     }
 
