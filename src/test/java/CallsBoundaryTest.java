@@ -2,8 +2,9 @@
 final class CallsBoundaryTest {
     private static final Checks checks = new Checks();
     private static final int CALLS = 512;
-    /** Three hexagons that reach from -9 to 9. */
-    private static final String LARGE = "-9,-8 8,-9 9,-8 9,8 8,9 -9,8;-8,-9 7,-9 9,0 7,9 -8,9 -9,0;-9,-9 9,-9 9,9 -9,9;";
+    /** Two hexagons and a square that reach from -9 to 9. */
+    private static final String LARGE =
+        "-9,-8 8,-9 9,-8 9,8 8,9 -9,8;-8,-9 7,-9 9,0 7,9 -8,9 -9,0;-9,-9 9,-9 9,9 -9,9;";
     /** Three hexagons that are small, so that eight of them leave many places. */
     private static final String SMALL = "0,01,02,12,21,20,1;1,12,13,23,32,31,2;2,23,24,34,43,42,3;";
 
@@ -22,7 +23,8 @@ final class CallsBoundaryTest {
     private static void allCallsAreTextCalls() {
         NestingPlanner planner = new NestingPlanner();
         for (int call = 1; call <= CALLS - 1; call++) {
-            checks.due("appendCharacter, call " + call, planner.appendCharacter(' '), call <= 150 ? call : Checks.CAPACITY);
+            int due = call <= 150 ? call : Checks.CAPACITY;
+            checks.due("appendCharacter, call " + call, planner.appendCharacter(' '), due);
         }
         checks.due("clearText(), the last call", planner.clearText(), 150);
     }

@@ -322,7 +322,8 @@ final class ItemsBoundaryTest {
         order.refuses(1, Integer.MIN_VALUE, Checks.INVALID);
         order.refuses(1, 2, Checks.NONE);
         order.refuses(1, Integer.MAX_VALUE, Checks.NONE);
-        boundary.refused("no items, direction 8", Boundary::shapes, planner -> planner.removalOrder(8, 0), Checks.INVALID);
+        boundary.refused("no items, direction 8", Boundary::shapes, planner -> planner.removalOrder(8, 0),
+            Checks.INVALID);
         boundary.refused("no items, k -1", Boundary::shapes, planner -> planner.removalOrder(0, -1), Checks.INVALID);
     }
 

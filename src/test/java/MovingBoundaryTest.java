@@ -93,7 +93,8 @@ final class MovingBoundaryTest {
                 planner.setClearance(1);
                 return planner;
             };
-            boundary.refused("at the clearance, " + direction, close, planner -> planner.slideItem(0, away), Checks.NONE);
+            boundary.refused("at the clearance, " + direction, close, planner -> planner.slideItem(0, away),
+                Checks.NONE);
         }
         // in a corner, a step along one wall does not make up for the other one
         boundary.refused("in the corner", Boundary.items("0@0,5;"), planner -> planner.slideItem(0, 3), Checks.NONE);
