@@ -1294,7 +1294,9 @@ public final class NestingPlanner {
             for (int i = 0; i < fixed.pieces; i++) {
                 for (int j = 0; j < moved.pieces; j++) {
                     addUp(fixed, i, moved, j, HALF_TURN);
-                    result |= sum.lowerToEntry(x, y, dx, dy, answer);
+                    if (sum.lowerToEntry(x, y, dx, dy, answer)) {
+                        result = true;
+                    }
                 }
             }
             return result;
